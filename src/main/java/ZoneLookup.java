@@ -286,7 +286,7 @@ public final class ZoneLookup {
 
     private static boolean isSameOrAbove(int upper, int lower) {
         int name = lower;
-        for (int step = 0; step < MAX_LABELS && name != EMPTY_NAME; step++) {
+        for (int step = 0; step < MAX_LABELS; step++) {
             if (name == upper) {
                 return true;
             }

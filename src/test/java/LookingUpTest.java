@@ -22,6 +22,7 @@ public final class LookingUpTest {
         fiveRounds();
         loops();
         lookingUpChangesNothing();
+        eachCallLooksUpAnew();
         Due.end();
     }
 
@@ -311,5 +312,23 @@ public final class LookingUpTest {
         Due.due("the count stays", x.add(1, 1), 3);
         x.erase();
         Due.looked("each lookup is of its own", x, 1, ZoneLookup.NO_DATA, 0, 1);
+    }
+
+    private static void eachCallLooksUpAnew() {
+        ZoneLookup x = with(3, 4, 2);
+        put(x, 1, 5, 3);
+        Due.key(x, 2);
+        Due.due("place as the first call", x.place(1), 4);
+        Due.due("place of another sort", x.place(3), 3);
+        Due.due("rounds after another sort", x.rounds(1), 2);
+        x.look(3);
+        Due.due("place after another sort", x.place(1), 4);
+        x.remove(3, 4);
+        Due.due("rounds after remove", x.rounds(1), 1);
+        Due.due("look after remove", x.look(1), ZoneLookup.NO_NAME);
+        x.erase();
+        Due.due("place for another key", x.place(1), 0);
+        ZoneLookup y = with(3, 4, 2);
+        Due.due("rounds as the first call", y.rounds(1), 2);
     }
 }

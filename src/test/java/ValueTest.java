@@ -11,6 +11,8 @@ public final class ValueTest {
         handed();
         otherAnswers();
         wrongSorts();
+        removedValuesAreGone();
+        allEntriesHeld();
         Due.end();
     }
 
@@ -129,6 +131,34 @@ public final class ValueTest {
         x.value(1, 0);
         for (int sort : new int[] {0, 5, -1, LOW, HIGH}) {
             none("wrong sort", x, sort, 0, 1, -1);
+        }
+    }
+
+    private static void removedValuesAreGone() {
+        ZoneLookup x = new ZoneLookup();
+        x.add(1, 10);
+        x.add(1, 20);
+        x.add(1, 5);
+        x.remove(1, 5);
+        Due.due("the least that is left", x.value(1, 0), 10);
+        Due.due("the next that is left", x.value(1, 1), 20);
+        none("the removed one", x, 1, 2);
+        x.remove(1, 20);
+        none("the removed ones", x, 1, 1, 2);
+        x.remove(1, 10);
+        none("all removed", x, 1, 0, 1, 2);
+    }
+
+    private static void allEntriesHeld() {
+        ZoneLookup x = new ZoneLookup();
+        for (int i = 0; i < 24; i++) {
+            Due.key(x, i / 3);
+            x.add(1, 100 - i);
+        }
+        for (int i = 0; i < 24; i++) {
+            Due.key(x, i / 3);
+            Due.due("value of 24", x.value(1, 2 - i % 3), 100 - i);
+            none("value of 24", x, 1, 3, -1);
         }
     }
 }
