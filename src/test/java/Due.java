@@ -1,14 +1,22 @@
-/** What the project's tests share: comparing answers, and setting the key. */
+/** What the project's tests share: comparing answers, setting the key, and making entries. */
 final class Due {
     private static int wrong = 0;
+    private static int sentences = 0;
+    private static String sentence = "";
 
     private Due() {
+    }
+
+    /** The words of the document that the answers from here on are about. */
+    static void sentence(String words) {
+        sentences++;
+        sentence = "\"" + words + "\": ";
     }
 
     static void due(String call, long got, long want) {
         if (got != want) {
             wrong++;
-            System.out.println(call + " answered " + got + ", due is " + want);
+            System.out.println(sentence + call + " answered " + got + ", due is " + want);
         }
     }
 
@@ -17,6 +25,11 @@ final class Due {
         for (int label : labels) {
             x.label(label);
         }
+    }
+
+    static void put(ZoneLookup x, int sort, int value, int... labels) {
+        key(x, labels);
+        x.add(sort, value);
     }
 
     static int numberOf(int... labels) {
@@ -34,6 +47,9 @@ final class Due {
     }
 
     static void end() {
+        if (sentences > 0) {
+            System.out.println(sentences + " sentences of the document");
+        }
         System.out.println(wrong == 0 ? "all answers are as due" : wrong + " answers are not as due");
         if (wrong != 0) {
             System.exit(1);

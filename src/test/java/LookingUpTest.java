@@ -46,19 +46,14 @@ public final class LookingUpTest {
 
     private static ZoneLookup with(int sort, int value, int... labels) {
         ZoneLookup x = new ZoneLookup();
-        put(x, sort, value, labels);
+        Due.put(x, sort, value, labels);
         return x;
-    }
-
-    private static void put(ZoneLookup x, int sort, int value, int... labels) {
-        Due.key(x, labels);
-        x.add(sort, value);
     }
 
     private static void handOverOfTheNameAndAbove() {
         ZoneLookup x = with(4, 70, 1, 2);
-        put(x, 1, 5, 1, 2, 3);
-        put(x, 1, 5, 1, 2);
+        Due.put(x, 1, 5, 1, 2, 3);
+        Due.put(x, 1, 5, 1, 2);
         int place = Due.numberOf(1, 2);
         int[][] under = {{1, 2}, {1, 2, 3}, {1, 2, 4}, {1, 2, 3, 4}, {1, 2, 7}};
         for (int[] labels : under) {
@@ -75,11 +70,11 @@ public final class LookingUpTest {
 
     private static void shortestHandOverWins() {
         ZoneLookup x = with(4, 1, 3, 3, 3, 3);
-        put(x, 4, 2, 3, 3);
-        put(x, 4, 3, 3, 3, 3);
+        Due.put(x, 4, 2, 3, 3);
+        Due.put(x, 4, 3, 3, 3, 3);
         Due.key(x, 3, 3, 3, 3);
         Due.looked("shortest of three", x, 1, ZoneLookup.HANDED, Due.numberOf(3, 3), 1);
-        put(x, 4, 4, 3);
+        Due.put(x, 4, 4, 3);
         Due.key(x, 3, 3, 3, 3);
         Due.looked("shortest of four", x, 2, ZoneLookup.HANDED, 4, 1);
         Due.key(x, 3, 3);
@@ -94,20 +89,20 @@ public final class LookingUpTest {
 
     private static void emptyNameHandsNothingOver() {
         ZoneLookup x = with(4, 9);
-        put(x, 1, 5);
+        Due.put(x, 1, 5);
         Due.looked("the empty name", x, 1, ZoneLookup.FOUND, 0, 1);
         Due.looked("the empty name", x, 2, ZoneLookup.NO_DATA, 0, 1);
         Due.looked("the empty name", x, 4, ZoneLookup.FOUND, 0, 1);
         Due.key(x, 2);
         Due.looked("below the empty name", x, 1, ZoneLookup.NO_NAME, 3, 1);
-        put(x, 4, 8, 2);
+        Due.put(x, 4, 8, 2);
         Due.looked("the empty name isn't the shortest", x, 1, ZoneLookup.HANDED, 3, 1);
     }
 
     private static void sortFourIsNotHanded() {
         ZoneLookup x = with(4, 70, 1);
-        put(x, 4, 71, 1, 2);
-        put(x, 1, 5, 1, 3);
+        Due.put(x, 4, 71, 1, 2);
+        Due.put(x, 1, 5, 1, 3);
         Due.key(x, 1);
         Due.looked("sort 4", x, 4, ZoneLookup.FOUND, 2, 1);
         Due.key(x, 1, 2);
@@ -120,8 +115,8 @@ public final class LookingUpTest {
 
     private static void handOverComesBeforeAliasAndMissingName() {
         ZoneLookup x = with(4, 70, 1);
-        put(x, 3, 3, 1);
-        put(x, 1, 5, 2);
+        Due.put(x, 3, 3, 1);
+        Due.put(x, 1, 5, 2);
         Due.key(x, 1);
         Due.looked("hand-over and alias", x, 1, ZoneLookup.HANDED, 2, 1);
         Due.looked("hand-over and alias", x, 3, ZoneLookup.HANDED, 2, 1);
@@ -132,7 +127,7 @@ public final class LookingUpTest {
 
     private static void handOverAfterAlias() {
         ZoneLookup x = with(4, 70, 1);
-        put(x, 3, Due.numberOf(1, 5, 6), 2);
+        Due.put(x, 3, Due.numberOf(1, 5, 6), 2);
         Due.key(x, 2);
         Due.looked("alias under a hand-over", x, 1, ZoneLookup.HANDED, 2, 2);
         Due.looked("alias under a hand-over", x, 3, ZoneLookup.FOUND, 3, 1);
@@ -165,9 +160,9 @@ public final class LookingUpTest {
 
     private static void starBelowTheLongestThatExists() {
         ZoneLookup x = with(1, 5, 7);
-        put(x, 1, 6, 1, 7);
-        put(x, 2, 7, 1, 2);
-        put(x, 1, 8, 3, 3, 3, 7);
+        Due.put(x, 1, 6, 1, 7);
+        Due.put(x, 2, 7, 1, 2);
+        Due.put(x, 1, 8, 3, 3, 3, 7);
         Due.key(x, 1, 3);
         Due.looked("star beside", x, 1, ZoneLookup.FOUND, Due.numberOf(1, 7), 1);
         Due.looked("star beside", x, 2, ZoneLookup.NO_DATA, Due.numberOf(1, 7), 1);
@@ -199,15 +194,15 @@ public final class LookingUpTest {
         Due.looked("the star itself", x, 1, ZoneLookup.FOUND, Due.numberOf(2, 7), 1);
         Due.key(x, 2, 7, 1);
         Due.looked("below the star", x, 1, ZoneLookup.NO_NAME, Due.numberOf(2, 7, 1), 1);
-        put(x, 2, 6, 2, 7, 7);
+        Due.put(x, 2, 6, 2, 7, 7);
         Due.key(x, 2, 7, 1);
         Due.looked("the star of the star", x, 2, ZoneLookup.FOUND, Due.numberOf(2, 7, 7), 1);
     }
 
     private static void aliasIsFollowed() {
         ZoneLookup x = with(3, Due.numberOf(3, 4), 2);
-        put(x, 1, 5, 3, 4);
-        put(x, 1, 6, 2);
+        Due.put(x, 1, 5, 3, 4);
+        Due.put(x, 1, 6, 2);
         Due.key(x, 2);
         Due.looked("alias", x, 1, ZoneLookup.FOUND, Due.numberOf(3, 4), 2);
         Due.looked("alias", x, 2, ZoneLookup.NO_DATA, Due.numberOf(3, 4), 2);
@@ -218,7 +213,7 @@ public final class LookingUpTest {
 
     private static void aliasIsNotFollowedForSortThree() {
         ZoneLookup x = with(3, 4, 2);
-        put(x, 3, 3, 3);
+        Due.put(x, 3, 3, 3);
         Due.key(x, 2);
         Due.looked("sort 3", x, 3, ZoneLookup.FOUND, 3, 1);
         Due.key(x, 3);
@@ -227,7 +222,7 @@ public final class LookingUpTest {
 
     private static void aliasOfAStar() {
         ZoneLookup x = with(3, Due.numberOf(1, 1), 7);
-        put(x, 1, 5, 1, 1);
+        Due.put(x, 1, 5, 1, 1);
         Due.key(x, 4, 4);
         Due.looked("star's alias", x, 1, ZoneLookup.FOUND, Due.numberOf(1, 1), 2);
         Due.looked("star's alias", x, 3, ZoneLookup.FOUND, 8, 1);
@@ -236,8 +231,8 @@ public final class LookingUpTest {
 
     private static void aliasOfTheEmptyName() {
         ZoneLookup x = with(3, 2);
-        put(x, 1, 5, 1);
-        put(x, 3, 0, 2);
+        Due.put(x, 1, 5, 1);
+        Due.put(x, 3, 0, 2);
         x.erase();
         Due.looked("empty name's alias", x, 1, ZoneLookup.FOUND, 2, 2);
         Due.key(x, 2);
@@ -252,7 +247,7 @@ public final class LookingUpTest {
         ZoneLookup x = with(3, Due.numberOf(5, 5), 2);
         Due.key(x, 2);
         Due.looked("alias to no name", x, 1, ZoneLookup.NO_NAME, Due.numberOf(5, 5), 2);
-        put(x, 1, 5, 7);
+        Due.put(x, 1, 5, 7);
         Due.key(x, 2);
         Due.looked("alias to a name under a star", x, 1, ZoneLookup.FOUND, 8, 2);
     }
@@ -260,7 +255,7 @@ public final class LookingUpTest {
     private static void fiveRounds() {
         ZoneLookup x = with(1, 5, 6);
         for (int label = 0; label < 6; label++) {
-            put(x, 3, label + 2, label);
+            Due.put(x, 3, label + 2, label);
         }
         for (int label = 6; label >= 2; label--) {
             Due.key(x, label);
@@ -275,10 +270,10 @@ public final class LookingUpTest {
         x.remove(1, 5);
         Due.key(x, 2);
         Due.looked("no name in the fifth round", x, 1, ZoneLookup.NO_NAME, 7, 5);
-        put(x, 4, 5, 6);
+        Due.put(x, 4, 5, 6);
         Due.key(x, 2);
         Due.looked("handed in the fifth round", x, 1, ZoneLookup.HANDED, 7, 5);
-        put(x, 3, 1, 6);
+        Due.put(x, 3, 1, 6);
         Due.key(x, 2);
         Due.looked("handed before the loop", x, 2, ZoneLookup.HANDED, 7, 5);
         Due.looked("loop for sort 4", x, 4, ZoneLookup.LOOP, 7, 5);
@@ -286,10 +281,10 @@ public final class LookingUpTest {
 
     private static void loops() {
         ZoneLookup x = with(3, 3, 2);
-        put(x, 1, 5, 2);
+        Due.put(x, 1, 5, 2);
         Due.looked("alias of itself", x, 1, ZoneLookup.LOOP, 3, 5);
         ZoneLookup y = with(3, 4, 2);
-        put(y, 3, 3, 3);
+        Due.put(y, 3, 3, 3);
         Due.key(y, 2);
         Due.looked("loop of two", y, 4, ZoneLookup.LOOP, 3, 5);
         ZoneLookup z = with(3, Due.numberOf(5, 5), 7);
@@ -299,7 +294,7 @@ public final class LookingUpTest {
 
     private static void lookingUpChangesNothing() {
         ZoneLookup x = with(3, 4, 2);
-        put(x, 1, 5, 3);
+        Due.put(x, 1, 5, 3);
         Due.key(x, 2);
         for (int sort = 0; sort <= 5; sort++) {
             x.look(sort);
@@ -316,7 +311,7 @@ public final class LookingUpTest {
 
     private static void eachCallLooksUpAnew() {
         ZoneLookup x = with(3, 4, 2);
-        put(x, 1, 5, 3);
+        Due.put(x, 1, 5, 3);
         Due.key(x, 2);
         Due.due("place as the first call", x.place(1), 4);
         Due.due("place of another sort", x.place(3), 3);
