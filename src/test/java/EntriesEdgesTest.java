@@ -147,10 +147,13 @@ public final class EntriesEdgesTest {
         for (int[] key : keys) {
             for (int sort = 1; sort <= 4; sort++) {
                 int more = sort;
-                Refused.due("the 25th, add(" + more + ", 5)", x -> {
-                    Zones.full(x);
-                    Due.key(x, key);
-                }, x -> x.add(more, 5), -1);
+                // 1 is there already for the full names, and 9 is no name's number.
+                for (int value : new int[] {5, 1, 9}) {
+                    Refused.due("the 25th, add(" + more + ", " + value + ")", x -> {
+                        Zones.full(x);
+                        Due.key(x, key);
+                    }, x -> x.add(more, value), -1);
+                }
             }
         }
         Refused.due("the 25th, with room made and taken", x -> {

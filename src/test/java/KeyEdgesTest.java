@@ -158,14 +158,19 @@ public final class KeyEdgesTest {
                 Due.due("label after", x.label(1), count);
             }
         }
-        Refused.due("of an empty key", x -> {
-            Zones.mixed(x);
-            while (x.back() != -1) {
+        // With keys set by label and back alone, since erase is what is tested.
+        for (int times = 1; times <= 3; times++) {
+            ZoneLookup x = new ZoneLookup();
+            x.label(1);
+            x.add(1, 5);
+            for (int time = 1; time <= times; time++) {
+                x.erase();
             }
-        }, x -> {
-            x.erase();
-            return 0;
-        }, 0);
+            Due.due("the entries stay", x.add(1, 6), 2);
+            x.label(1);
+            Due.due("the entries stay", x.value(1, 0), 5);
+            Due.due("the entries stay", x.remove(1, 5), 1);
+        }
     }
 
     private static void number() {
